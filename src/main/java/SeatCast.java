@@ -477,8 +477,8 @@ public final class SeatCast {
         for (int n = 0; n < MOST_SEATINGS && more; n++) {
             show.play(trial, 0, 0);
             if (show.isAsSeen(trial)) {
-                found++;
-                seats |= what == 0 || trial.isAway(p) ? 0 : 1 << trial.seatOf[p];
+                found += seatings.alike(trial);
+                seats |= what == 0 ? 0 : seatings.seatsAlike(trial, p);
             }
             more = seatings.step(trial);
         }
@@ -860,6 +860,20 @@ public final class SeatCast {
             return found;
         }
 
+        /** SEATS that have the PART of no LINE (bits). */
+        int idleSeats() {
+            int spokenParts = 0;
+            for (int i = 0; i < lines; i++) {
+                spokenParts |= 1 << partOfLine[i];
+            }
+            int idle = 0;
+            for (int s = 0; s < seats(); s++) {
+                int k = partOfSeat[s];
+                idle |= k == NONE || (spokenParts >> k & 1) == 0 ? 1 << s : 0;
+            }
+            return idle;
+        }
+
         int seatsWithPart() {
             int found = 0;
             for (int s = 0; s < seats(); s++) {
@@ -868,26 +882,22 @@ public final class SeatCast {
             return found;
         }
 
-        boolean addOne(int s, int v, int with, int feuds) {
-            if (people >= MOST_PEOPLE) {
-                return false;
+        void addOne(int s, int v, int with, int feuds) {
+            if (people < MOST_PEOPLE) {
+                seatOf[people] = s;
+                voiceOf[people] = v;
+                comesWith[people] = with;
+                feudsOf[people] = feuds;
+                people++;
             }
-            seatOf[people] = s;
-            voiceOf[people] = v;
-            comesWith[people] = with;
-            feudsOf[people] = feuds;
-            people++;
-            return true;
         }
 
-        boolean addLine(int k, boolean opening) {
-            if (lines >= MOST_LINES) {
-                return false;
+        void addLine(int k, boolean opening) {
+            if (lines < MOST_LINES) {
+                partOfLine[lines] = k;
+                setOpening(lines, opening);
+                lines++;
             }
-            partOfLine[lines] = k;
-            setOpening(lines, opening);
-            lines++;
-            return true;
         }
 
         boolean addSeen(int i, int p) {
@@ -986,13 +996,19 @@ public final class SeatCast {
         }
     }
 
-    /** Walks a house through all its SEATINGS, by PEOPLE, SEATS by numbers. */
+    /**
+     * Walks a house through its SEATINGS, by PEOPLE, SEATS by numbers. Who sits in an idle SEAT
+     * speaks nothing, whichever of them it is: so each takes but the first of those that are free,
+     * and a SEATING stands for all that differ from it by idle SEATS alone, the first of them.
+     */
     private static final class Seatings {
         private final int[] movers = new int[MOST_PEOPLE];
         private final int[] keptSeats = new int[MOST_PEOPLE];
         private int moving;
+        private int idle;
 
         void begin(House h) {
+            idle = h.idleSeats();
             moving = 0;
             for (int p = 0; p < h.people; p++) {
                 if (!h.isAway(p)) {
@@ -1021,20 +1037,47 @@ public final class SeatCast {
             System.arraycopy(h.seatOf, 0, keptSeats, 0, MOST_PEOPLE);
         }
 
+        /** How many SEATINGS this one stands for. */
+        int alike(House h) {
+            int free = Integer.bitCount(idle);
+            int ways = 1;
+            for (int m = 0; m < moving; m++) {
+                if (isIdle(h.seatOf[movers[m]])) {
+                    ways *= free;
+                    free--;
+                }
+            }
+            return ways;
+        }
+
+        /** SEATS of a ONE by the SEATINGS that this one stands for (bits). */
+        int seatsAlike(House h, int p) {
+            if (h.isAway(p)) {
+                return 0;
+            }
+            return isIdle(h.seatOf[p]) ? idle : 1 << h.seatOf[p];
+        }
+
+        private boolean isIdle(int s) {
+            return (idle >> s & 1) != 0;
+        }
+
         private void seatFrom(House h, int firstMover) {
             for (int m = firstMover; m < moving; m++) {
                 h.seatOf[movers[m]] = freeSeat(h, m, 0);
             }
         }
 
-        /** The least SEAT from one on in which no mover ahead of the m-th one is. */
+        /** The least SEAT from one on that the m-th mover may take behind those ahead of him. */
         private int freeSeat(House h, int m, int from) {
             int taken = 0;
             for (int other = 0; other < m; other++) {
                 taken |= 1 << h.seatOf[movers[other]];
             }
+            int firstIdle = Integer.lowestOneBit(idle & ~taken);
+            int free = ~(idle | taken) | firstIdle;
             for (int s = from; s < h.seats(); s++) {
-                if ((taken >> s & 1) == 0) {
+                if ((free >> s & 1) != 0) {
                     return s;
                 }
             }
@@ -1293,10 +1336,10 @@ public final class SeatCast {
                 next++;
             } else if (isIn(c, 'a', 'z')) {
                 kind = NAME;
-                skip('a', 'z');
+                skipBytes('a', 'z');
             } else if (isIn(c, '0', '9')) {
                 kind = NUMBER;
-                skip('0', '9');
+                skipBytes('0', '9');
                 value = numberAt(start, next);
                 failIf(next - start > MOST_FIGURES, NO_TOKEN);
             } else {
@@ -1304,8 +1347,8 @@ public final class SeatCast {
             }
         }
 
-        private void skip(int low, int high) {
-            while (next < tape.length && isIn(tape.bytes[next], low, high)) {
+        private void skipBytes(int low, int high) {
+            while (next < tape.length && tape.bytes[next] >= low && tape.bytes[next] <= high) {
                 next++;
             }
         }

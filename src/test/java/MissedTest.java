@@ -62,6 +62,10 @@ final class MissedTest {
         y.sit(0, NONE);
         y.sit(1, NONE);
         DUE.due(30, "row(0), of several the first", y.row(0), 0);
+        SeatCast z = Due.told("part 0 0;part 3 0;one 0 0 0;one 3 0 0;line 0;line 0;line 0;line 0;"
+                + "line 0;line 0;line 0;line 0;");
+        DUE.due(30, "row(0), all lines by either", z.row(0), 0);
+        DUE.due(30, "row(1), all lines by either", z.row(1), 8);
         DUE.due(30, "row(0), nobody", new SeatCast().row(0), 0);
         DUE.due(30, "row(1), nobody", new SeatCast().row(1), 0);
     }
@@ -103,6 +107,12 @@ final class MissedTest {
         shareOf(z, 1, 13, 12);
         shareOf(z, 2, 7, 12);
         shareOf(z, 3, 1, 4);
+        DUE.due(30, "row(0), four of a row", z.row(0), 0);
+        DUE.due(30, "row(1), four of a row", z.row(1), 0);
+        z.sit(0, NONE);
+        z.law(1);
+        shareOf(z, 0, 0, 1);
+        shareOf(z, 1, 1, 1);
     }
 
     private static void mean() {
@@ -124,6 +134,8 @@ final class MissedTest {
         // who is away stays away: 0 and 2, one line by 0
         meanOf(y, 3, 7, 10);
         meanOf(new SeatCast(), 5, 0, 1);
+        SeatCast z = Due.told("part 0 0;away 0 0;one 0 0 0;line 0;");
+        meanOf(z, 4, 3, 5);
     }
 
     private static void luck() {

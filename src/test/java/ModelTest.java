@@ -2,7 +2,7 @@ import java.util.Random;
 
 /** All promises at once: runs of calls drawn from fixed seeds, each answer held against Model's. */
 final class ModelTest {
-    private static final int RUNS = 1500;
+    private static final int RUNS = 3000;
     private static final int CALLS = 512;
     private static final int[] EDGES = {Integer.MIN_VALUE, Integer.MAX_VALUE, -1, -2, -3, -4, -5,
         0, 1, 2, 3, 4, 5, 6, 7, 8, 9, 10, 11, 12, 13, 14, 15, 16, 20, 21, 39, 40, 41, 60, 61, 128};
@@ -293,7 +293,7 @@ final class ModelTest {
             return true;
         }
         dear++;
-        return dear <= 2;
+        return dear <= 4;
     }
 
     private int argument(int below) {

@@ -150,6 +150,9 @@ final class NightTest {
         DUE.due(21, "night(-1)", x.night(-1), SeatCast.BAD);
         DUE.due(21, "night(4)", x.night(4), SeatCast.BAD);
         nightOf(new SeatCast(), "no lines", 0, 0, NONE, 0);
+        SeatCast all = Due.told("part 0 0;one 0 0 0;line 0;line 0;line 0;line 0;"
+                + "line 0;line 0;line 0;line 0;");
+        nightOf(all, "eight lines", 8, 255, NONE, 1);
         SeatCast y = Due.told("part 0 0;one 0 0 1;line 0;scene 0;scene 1;scene 0;line 0;");
         nightOf(y, "four scenes", 3, 26, 0, 2);
         y.opens(4, true);

@@ -14,6 +14,7 @@ final class SeatingTest {
     public static void main(String[] args) {
         best();
         bestOfSeveral();
+        bestIsTheLastOfAll();
         change();
         changeWithOneWhoIsAway();
         role();
@@ -61,8 +62,23 @@ final class SeatingTest {
         SeatCast w = Due.told("house 2 2;part 0 3;part 1 2;part 2 1;part 3 0;one 0 5 0;one 1 5 1 1;"
                 + "one 2 5 2 2;one 3 5 3 3;line 0;line 1;line 2;line 3;");
         DUE.due(23, "best(0), four", w.best(0), 4);
+        DUE.due(24, "change(0), four", w.change(0), 3);
+        DUE.due(24, "change(1), four", w.change(1), 1);
         for (int p = 0; p < 4; p++) {
             DUE.due(23, "best(" + (10 + p) + "), four", w.best(10 + p), 3 - p);
+        }
+    }
+
+    /** Each comes with the line of his number, and all twelve seats have a part of the lines. */
+    private static void bestIsTheLastOfAll() {
+        SeatCast x = Due.told("house 3 4;one 0 5 0;one 1 5 1;one 2 5 2;one 3 5 3;"
+                + "line 0;line 1;line 2;line 3;line 4;");
+        for (int s = 0; s < 12; s++) {
+            x.part(s, s < 8 ? 4 : 11 - s);
+        }
+        DUE.due(23, "best(0), the last of 11880", x.best(0), 4);
+        for (int p = 0; p < 4; p++) {
+            DUE.due(23, "best(" + (10 + p) + "), the last of 11880", x.best(10 + p), 11 - p);
         }
     }
 
@@ -199,6 +215,10 @@ final class SeatingTest {
         DUE.due(28, "peace(0), with himself", y.peace(0), 0);
         DUE.due(28, "peace(1), with himself", y.peace(1), 2);
         DUE.due(28, "peace(0), nobody", new SeatCast().peace(0), NONE);
+        SeatCast w = Due.told("away 0 0 0 1 2 3;away 0 0 0 1 2 3;away 0 0 0 1 2 3;away 0 0 0 1 2 3;"
+                + "line 0;");
+        DUE.due(28, "peace(0), nobody speaks", w.peace(0), NONE);
+        DUE.due(28, "peace(0), nobody speaks nor feuds", Due.told("away 0 0;line 0;").peace(0), NONE);
         // two feuds, the end of either makes a line more: the least
         SeatCast z = Due.told("part 0 0;part 1 1;one 0 5 0 1;one 1 5 0 0;line 0;line 1;scene 1;line 0;");
         DUE.due(28, "peace(0), of several the least", z.peace(0), 1);

@@ -78,6 +78,16 @@ final class SeenTest {
         x.part(11, 0);
         x.see(0, 3);
         fitsAre(x, "3 sits in 11", 990, 2047, 2047, 2047, 2048);
+        x.part(11, 1);
+        fitsAre(x, "3 can not have spoken", 0, 0, 0, 0, 0);
+        x.forget(0);
+        fitsAre(x, "a part without lines", 11880, 4095, 4095, 4095, 4095);
+        // 0 in 0 or 1, and if in 1, nobody else in 0: 11 10 9 and 10 9 8
+        SeatCast z = Due.told("house 3 4;part 0 0;part 1 0;one 0 0 0;one 1 0 0;one 2 0 0;one 3 0 0;"
+                + "line 1;scene 0;");
+        z.see(1, 0);
+        z.see(0, NONE);
+        fitsAre(z, "0 spoke the second", 990 + 720, 3, 4094, 4094, 4094);
         SeatCast y = Due.told("house 1 2;one 0 0 0;one 1 0 0;");
         fitsAre(y, "a full house", 2, 3, 3);
         y.sit(1, NONE);

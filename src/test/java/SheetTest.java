@@ -9,6 +9,7 @@ final class SheetTest {
         keep();
         back();
         backOfAll();
+        backOfWhatWasSeen();
         sheet();
         lay();
         laidBits();
@@ -97,6 +98,21 @@ final class SheetTest {
         DUE.due(39, "fits(0), the first that was seen", x.fits(0), 30);
         DUE.due(39, "count(5), sheets are no part of it", x.count(5), 3);
         DUE.due(39, "count(4), nor is the tape", x.count(4), 1);
+    }
+
+    /** 1 comes with line 1, and only who is in seat 0 speaks. */
+    private static void backOfWhatWasSeen() {
+        SeatCast x = Due.told("house 1 2;part 0 0;one 0 0 0;one 1 0 1;line 0;scene 0;");
+        x.see(1, 1);
+        x.keep(0);
+        x.forget(0);
+        x.see(0, 1);
+        DUE.due(39, "fits(0), he can not have spoken line 0", x.fits(0), 0);
+        DUE.due(39, "back(0)", x.back(0), 2);
+        DUE.due(39, "fits(0), he spoke line 1", x.fits(0), 1);
+        DUE.due(39, "fits(11), he spoke line 1", x.fits(11), 1);
+        DUE.due(38, "keep(0), in place of it", x.keep(0), 1);
+        DUE.due(38, "count(2), it is kept, not moved", x.count(2), 1);
     }
 
     private static void sheet() {
@@ -291,6 +307,8 @@ final class SheetTest {
         DUE.due(44, "count(6)", x.count(6), 2);
         DUE.due(44, "count(0)", x.count(0), 1);
         DUE.due(44, "count(1)", x.count(1), 1);
+        x.sit(0, NONE);
+        DUE.due(44, "count(0), all away", x.count(0), 0);
     }
 
     /** A new sheet of these cells: its lane, its number, the cells. */

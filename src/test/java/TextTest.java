@@ -132,6 +132,7 @@ final class TextTest {
         }
         DUE.due(4, "seat(0, 0)", x.seat(0, 0), SeatCast.NONE);
         DUE.due(4, "count(1)", x.count(1), 0);
+        DUE.due(4, "count(6)", x.count(6), 0);
         DUE.due(4, "count(2), nothing is seen", x.count(2), 0);
         DUE.due(4, "count(3), images are gone", x.count(3), 0);
         DUE.due(4, "back(0)", x.back(0), SeatCast.STATE);
@@ -150,6 +151,10 @@ final class TextTest {
         DUE.due(4, "rule(2)", x.rule(2), 0);
         DUE.due(4, "rule(4)", x.rule(4), 0);
         DUE.due(4, "line(0, 1), the first one opens", x.line(0, 1), 1);
+        DUE.due(4, "text()", Due.tell(x, "soft;scene 1;scene 2;part 0 0;"), 4);
+        DUE.due(4, "text(), what the one ahead told is not told", Due.tell(x,
+                "soft;line 1;line 2;part 0 1;"), 4);
+        DUE.due(4, "line(1, 1)", x.line(1, 1), 0);
     }
 
     private static void textRefusedChangesNothing() {
@@ -184,6 +189,9 @@ final class TextTest {
         taken("house 1 2;", 1);
         taken("house 3 4;", 1);
         taken("line 0;line 0;line 0;line 0;line 0;line 0;line 0;line 0;", 8);
+        String blanks = " ".repeat(155);
+        taken(blanks + "soft;", 1);
+        taken(blanks + "     ", 0);
         SeatCast x = Due.told("house 03 04;one 11 05 09;");
         DUE.due(4, "rule(0), two figures", x.rule(0), 3);
         DUE.due(4, "rule(1), two figures", x.rule(1), 4);
@@ -240,6 +248,13 @@ final class TextTest {
         refused("house 2 2 2;", 2, 10);
         refused("house 2;", 2, 7);
         refused("scene scene", 2, 6);
+        refused("bine 0;", 2, 0);
+        refused("lone 0;", 2, 0);
+        refused("hous 2 2;", 2, 0);
+        String blanks = " ".repeat(154);
+        refused(blanks + "  soft", 2, 160);
+        refused(blanks + "line 0", 2, 160);
+        refused(blanks + "scenes", 2, 154);
     }
 
     private static void faultOfBounds() {
@@ -267,6 +282,8 @@ final class TextTest {
         refused("soft;soft;", 4, 5);
         refused("part 0 0;part 0 1;", 4, 14);
         refused("part 00 0;part 0 0;", 4, 15);
+        refused("part 0 0;part 1 0;part 0 0;", 4, 23);
+        refused("one 0 0 0;away 0 0;one 1 0 0;one 0 0 0;", 4, 33);
         refused("one 1 0 0;one 1 0 0;", 4, 14);
         refused("one 0 0 0 1 1;", 4, 12);
         refused("away 0 0 3 2 3;", 4, 13);
