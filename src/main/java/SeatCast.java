@@ -1074,7 +1074,8 @@ public final class SeatCast {
             for (int other = 0; other < m; other++) {
                 taken |= 1 << h.seatOf[movers[other]];
             }
-            int firstIdle = Integer.lowestOneBit(idle & ~taken);
+            int freeIdle = idle & ~taken;
+            int firstIdle = freeIdle & -freeIdle;
             int free = ~(idle | taken) | firstIdle;
             for (int s = from; s < h.seats(); s++) {
                 if ((free >> s & 1) != 0) {

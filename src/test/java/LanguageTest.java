@@ -119,8 +119,8 @@ final class LanguageTest {
         while (calls.find()) {
             used.add(calls.group());
         }
-        TreeSet<String> allowed = new TreeSet<>(List.of("Integer.bitCount",
-                "Integer.lowestOneBit", "Math.abs", "System.arraycopy"));
+        TreeSet<String> allowed = new TreeSet<>(List.of("Integer.bitCount", "Math.abs",
+                "System.arraycopy"));
         used.removeAll(allowed);
         holds("nothing of the library but what is known: " + used, used.isEmpty());
     }
