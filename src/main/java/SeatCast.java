@@ -808,7 +808,7 @@ public final class SeatCast {
             return NONE;
         }
 
-        /** A ONE goes to a SEAT or away: where he was, or BAD or STATE, by which nothing changes. */
+        /** A ONE goes to a SEAT or away: where he was; or BAD or STATE, and nothing changes. */
         int moveOne(int p, int s) {
             if (!hasOne(p) || s != NONE && !hasSeat(s)) {
                 return BAD;
