@@ -37,6 +37,15 @@ final class EdgeSeating {
         e.calls(new SeatCast(), "fits(0) = 1");
         e.calls(e.told("house 2 2;one0 0 0;one1 0 0;one2 0 0;one3 0 0;"), "fits(0) = 24");
         e.calls(e.told("house 3 4;one0 0 0;one1 0 0;one2 0 0;one3 0 0;"), "fits(0) = 11880");
+        // each comes with the line of his number, and each seat has a part of theirs
+        SeatCast last = e.told("house 3 4;one0 5 0;one1 5 1;one2 5 2;one3 5 3;"
+                + "line0;line1;line2;line3;line4;");
+        for (int s = 0; s < 12; s++) {
+            e.ask(last, "part(" + s + ", " + (s < 8 ? 4 : 11 - s) + ")");
+        }
+        e.calls(last, "fits(0) = 11880", "fits(13) = 4095", "best(0) = 4", "best(10) = 11",
+                "best(11) = 10", "best(12) = 9", "best(13) = 8", "see(3, 3) = 1", "fits(0) = 1",
+                "fits(13) = 256");
     }
 
     private static void best(Edges e) {
@@ -72,6 +81,10 @@ final class EdgeSeating {
         // none is better than another: the first of all, not the one that is now
         e.calls(e.told("house 1 3;one2 0 0;line0;"), "best(0) = 0", "best(10) = 0");
         e.calls(e.told("house 3 4;part11 0;one0 0 0;line0;"), "best(10) = 11");
+        // all seats speak line 0, and none line 1
+        SeatCast y = e.told("house 1 3;part0 0;part1 0;part2 0;one2 0 0;one1 0 0;line0;line1;");
+        e.calls(y, "best(0) = 1", "best(10) = 0", "best(11) = 1", "sit(1, NONE) = 1",
+                "best(0) = 1", "best(10) = 0", "best(11) = NONE", "one(0, 0) = 2");
         e.sentence(23, "BAD.");
         for (int n = 1; n <= 9; n++) {
             e.calls(alike, "best(" + n + ") = BAD");

@@ -7,6 +7,8 @@ import java.nio.file.Files;
 import java.nio.file.Path;
 import java.util.ArrayList;
 import java.util.List;
+import java.util.Map;
+import java.util.TreeMap;
 import java.util.TreeSet;
 import java.util.regex.Matcher;
 import java.util.regex.Pattern;
@@ -35,6 +37,7 @@ final class LanguageTest {
         words(code);
         library(code);
         newIsForConstructors(code);
+        methods(code);
         DUE.close();
     }
 
@@ -132,6 +135,42 @@ final class LanguageTest {
             holds("made in a field: " + line.strip(), !line.matches(".*\\bnew\\b.*")
                     || line.matches(" +private final [A-Za-z\\[\\]]+ [a-zA-Z]+ = new .*;"));
         }
+    }
+
+    /** Methods stay short, none calls itself by any way, and calls go at most eight deep. */
+    private static void methods(String code) {
+        Map<String, String> bodies = new TreeMap<>();
+        Matcher starts = Pattern.compile("(?m)^( +)(?:[a-z]+ )*[A-Za-z\\[\\]]+ ([a-z][A-Za-z]*)"
+                + "\\([^;{]*\\) \\{$").matcher(code);
+        while (starts.find()) {
+            if (starts.group().matches("(?s) +(else|new|return|for|if|while|switch)\\b.*")) {
+                continue;
+            }
+            int end = code.indexOf("\n" + starts.group(1) + "}", starts.end());
+            String body = code.substring(starts.end(), end);
+            holds(starts.group(2) + " is short", body.split("\n").length <= 60);
+            // two of one name count as one that calls all that either does
+            bodies.merge(starts.group(2), body, String::concat);
+        }
+        holds("the document's methods are found", bodies.size() > FACE.length);
+        for (String name : bodies.keySet()) {
+            int depth = depthOf(name, bodies, 1);
+            holds(name + " goes " + depth + " deep", depth <= 8);
+        }
+    }
+
+    private static int depthOf(String name, Map<String, String> bodies, int depth) {
+        int deepest = depth;
+        if (depth > 8) {
+            return depth;
+        }
+        Matcher calls = Pattern.compile("\\b([a-z][A-Za-z]*)\\(").matcher(bodies.get(name));
+        while (calls.find()) {
+            if (bodies.containsKey(calls.group(1))) {
+                deepest = Math.max(deepest, depthOf(calls.group(1), bodies, depth + 1));
+            }
+        }
+        return deepest;
     }
 
     /** The source without its comments and the insides of its texts. */
