@@ -219,6 +219,9 @@ final class EdgeText {
         e.refused("sofa;", 2, 0);
         e.refused("pert 0 0;", 2, 0);
         e.refused("linf 0;", 2, 0);
+        e.refused("wine 0;", 2, 0);
+        e.refused("mouse 2 2;", 2, 0);
+        e.refused("loft;", 2, 0);
         e.refused("line soft;", 2, 5);
         e.refused("part soft;", 2, 5);
         e.refused("one 0 soft;", 2, 6);
